@@ -29,6 +29,7 @@ public final class OracleTest {
         final Oracle o = new Oracle();
         final StringBuilder told = new StringBuilder();
         int calls = 0;
+        int seenLand = 0;
 
         Run(long seed, int size) {
             this.seed = seed;
@@ -86,12 +87,19 @@ public final class OracleTest {
 
         void shot() {
             int longest = size == 0 ? 4 : size == 1 ? 6 : 40;
-            int l = arg(1, longest);
-            int g = chance.nextBoolean() ? arg(0, 255) : arg(100, 120);
-            int s = arg(-9, 9);
-            int k = arg(0, 7);
-            int so = arg(0, 100);
-            int sh = arg(0, 40);
+            int l = pick(1, longest);
+            int g = chance.nextBoolean() ? arg(0, 255) : pick(100, 120);
+            int s = chance.nextBoolean() ? 0 : arg(-9, 9);
+            int k = pick(0, 7);
+            int so = pick(0, 100);
+            int sh = pick(0, 40);
+            switch (chance.nextInt(20)) {
+                case 0 -> l = arg(1, 40);
+                case 1 -> k = arg(0, 7);
+                case 2 -> so = arg(0, 100);
+                case 3 -> sh = arg(0, 40);
+                default -> { }
+            }
             check("shot(" + l + "," + g + "," + s + "," + k + "," + so + "," + sh + ")",
                     x.shot(l, g, s, k, so, sh), o.shot(l, g, s, k, so, sh));
             check("status()", x.status(), o.status);
@@ -137,7 +145,8 @@ public final class OracleTest {
                     break;
                 }
                 case 10:
-                    for (int n = 0; n < 4; n++) {
+                    int most = chance.nextInt(8) == 0 ? 60 : 4;
+                    for (int n = 0; n < most && calls < 480; n++) {
                         int s = arg(0, 2);
                         int a = chance.nextBoolean() ? arg(0, 255) : arg(40, 60);
                         int r = arg(0, 255);
@@ -189,7 +198,7 @@ public final class OracleTest {
         }
 
         List<Integer> seenRow() {
-            int land = pick(0, 7);
+            int land = chance.nextInt(3) == 0 ? pick(0, 7) : seenLand;
             int[] fails = new int[15];
             for (int k = 0; k < 15; k++) {
                 fails[k] = chance.nextInt(3) == 0 ? pick(0, 2) : 0;
@@ -230,7 +239,17 @@ public final class OracleTest {
             return row;
         }
 
+        /** A law that gives most SHOTS a LIGHT of its own, so that fails can be told apart. */
+        String lights() {
+            String[] laws = {"light 5+shot*7", "light 40-shot*3", "light [shot*13]-[shot*13/40*40]", "light grey/6",
+                "light 10 if shot/2*2=shot; light 30 if not shot/2*2=shot", "light 8+kind*4;title 2 if kind=land"};
+            return laws[chance.nextInt(laws.length)];
+        }
+
         String lawText() {
+            if (chance.nextInt(3) == 0) {
+                return lights();
+            }
             StringBuilder text = new StringBuilder();
             int clauses = chance.nextInt(12) == 0 ? pick(10, 14) : pick(1, 4);
             boolean brief = clauses > 8;
@@ -340,7 +359,7 @@ public final class OracleTest {
         }
 
         void ask() {
-            int land = arg(0, 7);
+            int land = chance.nextInt(3) == 0 ? seenLand : arg(0, 7);
             int most = Math.max(1, land >= 0 && land < 8 ? o.places(land).size() : 5);
             switch (chance.nextInt(19)) {
                 case 0: {
