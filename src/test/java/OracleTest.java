@@ -74,7 +74,12 @@ public final class OracleTest {
 
         void go() {
             int first = size == 0 ? 3 : size == 1 ? 6 : 16;
+            int early = chance.nextInt(4) == 0 ? pick(0, first - 1) : -1;
             for (int n = 0; n < first; n++) {
+                if (n == early) {
+                    // BACK to few SHOTS makes room for others in their place
+                    check("image(1)", x.image(1), o.image(1));
+                }
                 shot();
             }
             while (calls < 470 && wrong < 20) {

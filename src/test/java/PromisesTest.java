@@ -227,6 +227,16 @@ public final class PromisesTest {
         faulty("light", 5);
         faulty("light  ", 7);
         faulty("lights 5", 0);
+        faulty("fight 5", 0);
+        faulty("cutz", 0);
+        faulty("acut", 0);
+        faulty("cut`", 3);
+        faulty("cut{", 3);
+        faulty("light 5/", 8);
+        faulty("light 5:", 7);
+        faulty("light brey", 6);
+        faulty("light gre", 6);
+        faulty("light greys", 6);
         faulty("Light 5", 0);
         faulty("cutif 1=1", 0);
         faulty("cut;", 4);
@@ -287,6 +297,14 @@ public final class PromisesTest {
         accepted("cut if (((([[[[1]]]]=1))))", 1);
         faulty("cut if (((([[[[[1]]]]]=1))))", 15);
         accepted("cut if ((((1=1)))) and [[[[[[[[1]]]]]]]]=1", 1);
+        faulty("[".repeat(400), 0);
+        faulty("light " + "[".repeat(394), 14);
+        faulty("cut" + ";".repeat(397), 4);
+        accepted("cut" + " ".repeat(397), 1);
+        faulty("cut;" + " ".repeat(396), 400);
+        faulty("a".repeat(400), 0);
+        faulty("light " + "9".repeat(394), 6);
+        accepted("light " + "0".repeat(394), 1);
         StringBuilder nots = new StringBuilder("cut if ");
         for (int n = 0; n < 97; n++) {
             nots.append("not ");
@@ -885,6 +903,14 @@ public final class PromisesTest {
         tape(z, 20, 0);
         z.copy(1);
         due("24 a seam over a gap", z.one(1), 1);
+        FilmPrinter w = new FilmPrinter();
+        w.shot(1, 10, 0, 0, 0, 0);
+        tape(w, 10, 5);
+        w.copy(0);
+        tape(w, 10, 4);
+        w.copy(1);
+        due("24 one scratch less", w.one(0), 4);
+        due("25 one scratch less", w.from(0), 1);
         due("24 a seam over a gap", z.one(0), 10);
     }
 
@@ -1017,6 +1043,37 @@ public final class PromisesTest {
         due("30 images are apart", x.terms(1, 1), 5);
         x.back(0);
         due("30 images are apart", x.terms(1, 1), 0);
+        otherShotsInTheirPlace();
+    }
+
+    private static void otherShotsInTheirPlace() {
+        FilmPrinter x = new FilmPrinter();
+        x.image(0);
+        x.shot(3, 50, 1, 2, 60, 7);
+        x.shot(1, 90, 0, 0, 0, 0);
+        tape(x, 50, 1, 51, 2);
+        x.copy(1);
+        x.pair(1, 7, 8);
+        x.image(1);
+        x.back(0);
+        due("30 none", x.count(0) + x.count(1) + x.count(5), 0);
+        due("30 no pair", x.brought(1, 7), 7);
+        x.shot(2, 200, -1, 3, 10, 0);
+        x.shot(9, 200, -1, 3, 10, 0);
+        tape(x, 200, 9);
+        x.copy(1);
+        due("23 the other shots", x.matched(1, 0), 0);
+        x.back(1);
+        due("30 grey", x.printed(0, 2), 52);
+        due("30 length", x.of(0, 0), 3);
+        due("30 sound", x.of(0, 4), 60);
+        due("30 first frame", x.of(1, 6), 3);
+        due("30 shot of a frame", x.place(0, 3, 0), 1);
+        x.terms(4, 0);
+        due("30 shot that is heard", x.heard(0, 2), 0);
+        due("30 copy", x.matched(1, 1), 1);
+        due("30 scratches", x.one(0), 3);
+        due("30 pair", x.brought(1, 7), 8);
     }
 
     private static void counted() {
