@@ -157,7 +157,7 @@ public final class FilmPrinter {
 
     public int law() {
         faultPlace = reader.read(tape);
-        tape.length = 0;
+        tape.empty();
         if (faultPlace != NONE) {
             return refuse(BAD_TEXT);
         }
@@ -215,15 +215,15 @@ public final class FilmPrinter {
     }
 
     public int see() {
-        if (now.seenCount + tape.length > MOST_SEEN) {
+        int more = tape.empty();
+        if (now.seenCount + more > MOST_SEEN) {
             return refuse(NO_ROOM);
         }
-        if (tape.length == 0) {
+        if (more == 0) {
             return refuse(BAD_TEXT);
         }
-        System.arraycopy(tape.bytes, 0, now.seen, now.seenCount, tape.length);
-        now.seenCount += tape.length;
-        tape.length = 0;
+        System.arraycopy(tape.bytes, 0, now.seen, now.seenCount, more);
+        now.seenCount += more;
         return accept(now.seenCount);
     }
 
@@ -280,14 +280,15 @@ public final class FilmPrinter {
     }
 
     public int copy(int copy) {
+        int told = tape.empty();
         if (!isCopy(copy)) {
             return refuse(BAD_NUMBER);
         }
-        int more = tape.length / 2;
+        int more = told / 2;
         if (now.copyCounts[copy] + more > MOST_FRAMES) {
             return refuse(NO_ROOM);
         }
-        if (tape.length == 0) {
+        if (told == 0) {
             return refuse(BAD_TEXT);
         }
         int base = copy * MOST_FRAMES + now.copyCounts[copy];
@@ -296,7 +297,6 @@ public final class FilmPrinter {
             now.copyScratches[base + k] = tape.bytes[2 * k + 1];
         }
         now.copyCounts[copy] += more;
-        tape.length = 0;
         return accept(now.copyCounts[copy]);
     }
 
@@ -595,6 +595,13 @@ public final class FilmPrinter {
                     length++;
                 }
             }
+        }
+
+        /** How many bytes there were: they can still be read, until others come over them. */
+        int empty() {
+            int before = length;
+            length = 0;
+            return before;
         }
     }
 

@@ -911,14 +911,15 @@ public final class OracleTest {
         }
 
         int see() {
-            if (seen.size() + tape.size() > 800) {
+            List<Integer> row = tape;
+            tape = new ArrayList<>();
+            if (seen.size() + row.size() > 800) {
                 return no(-5);
             }
-            if (tape.isEmpty()) {
+            if (row.isEmpty()) {
                 return no(-6);
             }
-            seen.addAll(tape);
-            tape = new ArrayList<>();
+            seen.addAll(row);
             return said(seen.size());
         }
 
@@ -1085,19 +1086,20 @@ public final class OracleTest {
         }
 
         int copy(int c) {
+            List<Integer> row = tape;
+            tape = new ArrayList<>();
             if (!in(c, 0, 1)) {
                 return no(-1);
             }
-            if (copies.get(c).size() + tape.size() / 2 > 640) {
+            if (copies.get(c).size() + row.size() / 2 > 640) {
                 return no(-5);
             }
-            if (tape.isEmpty()) {
+            if (row.isEmpty()) {
                 return no(-6);
             }
-            for (int k = 0; k + 1 < tape.size(); k += 2) {
-                copies.get(c).add(new int[] {tape.get(k), tape.get(k + 1)});
+            for (int k = 0; k + 1 < row.size(); k += 2) {
+                copies.get(c).add(new int[] {row.get(k), row.get(k + 1)});
             }
-            tape = new ArrayList<>();
             return said(copies.get(c).size());
         }
 

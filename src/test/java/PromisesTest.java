@@ -515,13 +515,16 @@ public final class PromisesTest {
         due("14 no room", x.see(), -5);
         due("14 status", x.status(), -5);
         due("14 as it was", x.count(3), 404);
-        due("14 refused: the tape stays", x.count(6), 397);
-        due("14 one less", x.end(396), 396);
+        due("14 refused: the tape is empty", x.count(6), 0);
+        due("14 nothing is left of it", x.see(), -6);
+        tape(x, new int[396]);
         due("14 full", x.see(), 800);
         due("15 last", x.seen(799), 0);
         due("14 empty when full", x.see(), -6);
         tape(x, 1);
         due("14 one too many", x.see(), -5);
+        due("14 refused: no text is left", x.law(), -6);
+        due("14 refused: no text is left", x.fault(), 0);
     }
 
     private static FilmPrinter fourLights() {
@@ -746,8 +749,13 @@ public final class PromisesTest {
         due("21 empty", x.copy(0), -6);
         due("21 status", x.status(), -6);
         tape(x, 1, 2, 3);
-        due("21 refused: the tape stays", x.copy(2), -1);
-        due("21 refused: the tape stays", x.count(6), 3);
+        due("21 no such, with a row", x.copy(2), -1);
+        due("21 refused: the tape is empty", x.count(6), 0);
+        tape(x, 1, 2, 3);
+        due("21 no such, with a row", x.copy(MIN), -1);
+        due("21 refused: the tape is empty", x.count(6), 0);
+        due("21 nothing is left of it", x.copy(0), -6);
+        tape(x, 1, 2, 3);
         due("21 one alone is none", x.copy(0), 1);
         due("21 the tape is empty", x.count(6), 0);
         tape(x, 9);
@@ -762,13 +770,13 @@ public final class PromisesTest {
         due("21 no room", x.copy(1), -5);
         due("21 status", x.status(), -5);
         due("21 as it was", x.count(5), 600);
-        x.end(81);
+        due("21 refused: the tape is empty", x.count(6), 0);
+        tape(x, new int[81]);
         due("21 full", x.copy(1), 640);
         tape(x, 5);
         due("21 one byte has room always", x.copy(1), 640);
         tape(x, 5, 5);
         due("21 one too many", x.copy(1), -5);
-        due("21 empty when full", x.end(0), 0);
         due("21 empty when full", x.copy(1), -6);
     }
 
