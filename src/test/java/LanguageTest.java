@@ -147,15 +147,15 @@ public final class LanguageTest {
         for (int n = 0; n < 16; n++) {
             x.shot(40, 16 * n, 9 - n, n % 8, n * 6, 40);
         }
-        fill(x, "light 7+shot*2;title 99;light 30 if land>3 and not kind=2");
+        Sentences.tape(x, "light 7+shot*2;title 99;light 30 if land>3 and not kind=2");
         x.law();
         x.terms(3, 1);
         for (int n = 0; n < 2; n++) {
-            fill(x, "x".repeat(400));
+            Sentences.tape(x, "x".repeat(400));
             x.see();
         }
         for (int n = 0; n < 8; n++) {
-            fill(x, (n % 2 == 0 ? "p9x0" : "pAqz").repeat(n < 6 ? 100 : 20));
+            Sentences.tape(x, (n % 2 == 0 ? "p9x0" : "pAqz").repeat(n < 6 ? 100 : 20));
             x.copy(n % 2);
         }
         for (int n = 0; n < 60; n++) {
@@ -163,21 +163,9 @@ public final class LanguageTest {
         }
         x.image(0);
         x.image(1);
-        fill(x, "cut;".repeat(100));
+        Sentences.tape(x, "cut;".repeat(100));
         say(x.count(1) == 640 && x.count(3) == 800 && x.count(4) == 640 && x.count(5) == 640 && x.count(6) == 400
                 && x.edition(0, 0) == 960 && x.jump(0, -1) == 640, "not full");
         return x;
-    }
-
-    private static void fill(FilmPrinter x, String text) {
-        x.end(0);
-        for (int at = 0; at < text.length(); at += 20) {
-            int[] w = new int[5];
-            for (int k = 0; k < 20; k++) {
-                w[k / 4] = w[k / 4] << 8 | (at + k < text.length() ? text.charAt(at + k) : ' ');
-            }
-            x.feed(w[0], w[1], w[2], w[3], w[4]);
-        }
-        x.end(text.length());
     }
 }

@@ -1,10 +1,5 @@
 /** Each promise of the document by hand: ordinary inputs, the edges it names, wrong inputs. */
-public final class PromisesTest {
-    private static final int NONE = FilmPrinter.NONE;
-    private static final int MIN = Integer.MIN_VALUE;
-    private static final int MAX = Integer.MAX_VALUE;
-    private static int wrong = 0;
-
+public final class PromisesTest extends Sentences {
     public static void main(String[] args) {
         newObject();
         shots();
@@ -34,39 +29,7 @@ public final class PromisesTest {
         imagesKept();
         counted();
         statusOfCalls();
-        System.out.println(wrong == 0 ? "all promises hold" : wrong + " answers are not as promised");
-        if (wrong != 0) {
-            System.exit(1);
-        }
-    }
-
-    private static void due(String what, int got, int want) {
-        if (got != want) {
-            wrong++;
-            System.out.println(what + " answered " + got + ", due is " + want);
-        }
-    }
-
-    /** The TAPE becomes just these bytes. */
-    private static void tape(FilmPrinter x, int... bytes) {
-        x.end(0);
-        for (int at = 0; at < bytes.length; at += 20) {
-            int[] w = new int[5];
-            for (int k = 0; k < 20; k++) {
-                w[k / 4] = w[k / 4] << 8 | (at + k < bytes.length ? bytes[at + k] : 0);
-            }
-            x.feed(w[0], w[1], w[2], w[3], w[4]);
-        }
-        x.end(bytes.length);
-    }
-
-    private static int law(FilmPrinter x, String text) {
-        int[] bytes = new int[text.length()];
-        for (int k = 0; k < bytes.length; k++) {
-            bytes[k] = text.charAt(k);
-        }
-        tape(x, bytes);
-        return x.law();
+        finish();
     }
 
     private static void accepted(String text, int clauses) {
