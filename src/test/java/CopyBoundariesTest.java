@@ -8,6 +8,7 @@ public final class CopyBoundariesTest extends Sentences {
         matchedMost();
         matchedAlike();
         matchedOfMany();
+        strayAmongMany();
         matchCounted();
         matchedFrames();
         takenForOne();
@@ -24,6 +25,7 @@ public final class CopyBoundariesTest extends Sentences {
         inAPair();
         betweenTwo();
         belowAndAboveAll();
+        belowAndAboveOneAtTheEnd();
         broughtOrNot();
         finish();
     }
@@ -124,6 +126,8 @@ public final class CopyBoundariesTest extends Sentences {
         dueRow("one FRAME, two frames", matchedTo(greys(10), 10, 10), 0, NONE);
         dueRow("two FRAMES, one frame", matchedTo(greys(10, 10), 10), 0);
         dueRow("two FRAMES, three frames", matchedTo(greys(10, 10), 10, 10, 10), 0, 1, NONE);
+        dueRow("over darker FRAMES", matchedTo(greys(10, 20, 30), 30), 2);
+        dueRow("over brighter FRAMES", matchedTo(greys(30, 20, 10), 10), 2);
         dueRow("no FRAME", matchedTo(greys(), 10, 10), NONE, NONE);
         law(x, "cut;title 5;light 40");
         dueRow("the NEGATIVE knows no LAW", matchedTo(x, 10, 20, 30), 0, 1, 2);
@@ -184,6 +188,28 @@ public final class CopyBoundariesTest extends Sentences {
         due("the other: the last STRAY", x.matched(1, 199), NONE);
         due("the other: the first MATCHED", x.matched(1, 200), 0);
         due("the other: the last", x.matched(1, 639), 439);
+    }
+
+    /** 80 FRAMES of different GREYS, each with a frame of its own, and a STRAY one ahead of each. */
+    private static void strayAmongMany() {
+        sentence("others are STRAY: as many as can be");
+        for (int off : new int[] {-1, 2}) {
+            FilmPrinter x = new FilmPrinter();
+            x.shot(40, 0, 3, 0, 0, 0);
+            x.shot(40, 120, 3, 0, 0, 0);
+            int[] bytes = new int[320];
+            int[] want = new int[160];
+            for (int f = 0; f < 80; f++) {
+                bytes[4 * f] = f + off < 0 || f + off >= 80 ? 250 : 3 * (f + off);
+                want[2 * f] = NONE;
+                bytes[4 * f + 2] = 3 * f;
+                want[2 * f + 1] = f;
+            }
+            x.terms(WITHIN, 0);
+            copy(x, 0, bytes);
+            due("MATCHED", x.match(0, 0), 80);
+            dueRow("each STRAY one is as FRAME " + off + " of its own", matched(x, 0), want);
+        }
     }
 
     private static void matchCounted() {
@@ -283,6 +309,14 @@ public final class CopyBoundariesTest extends Sentences {
         FilmPrinter y = greys(10, 20);
         copy(y, 1, 20, 3);
         oneIs("the first that is taken has no SEAM", y, 3, 0, NONE, 1);
+        FilmPrinter z = greys(10, 20, 30);
+        copy(z, 0, 10, 0, 30, 50);
+        copy(z, 1, 10, 5, 30, 0);
+        oneIs("COPY 1 for what comes behind a MISSING one", z, 5, 0, 1, NONE, 1);
+        z.clear();
+        copy(z, 0, 10, 5, 30, 0);
+        copy(z, 1, 10, 0, 30, 50);
+        oneIs("COPY 0 for what comes behind a MISSING one", z, 5, 0, 0, NONE, 0);
     }
 
     private static void dearestSeams() {
@@ -370,6 +404,12 @@ public final class CopyBoundariesTest extends Sentences {
             due("MISSING of " + n, x.one(2), due[n][0]);
             due("longest row of " + n, x.one(3), due[n][1]);
         }
+        FilmPrinter x = greys(greys);
+        due("longest row without COPIES", x.one(3), 6);
+        copy(x, 1, 30, 0);
+        due("longest row with one frame", x.one(3), 3);
+        x.clear();
+        due("longest row without COPIES again", x.one(3), 6);
         FilmPrinter y = new FilmPrinter();
         due("MISSING of no FRAMES", y.one(2), 0);
         due("longest row of no FRAMES", y.one(3), 0);
@@ -530,6 +570,22 @@ public final class CopyBoundariesTest extends Sentences {
         due("254 of one down", x.brought(2, 254), 1);
         x.pair(2, 255, 1);
         due("alike", x.brought(2, 99), 1);
+    }
+
+    private static void belowAndAboveOneAtTheEnd() {
+        sentence("below all, above all by as much as it is off from the next one, 0 .. 255 (else the nearest)");
+        FilmPrinter x = new FilmPrinter();
+        x.pair(0, 0, 17);
+        due("above a PAIR at 0", x.brought(0, 5), 22);
+        due("far above a PAIR at 0", x.brought(0, 238), 255);
+        due("too far above a PAIR at 0", x.brought(0, 239), 255);
+        x.pair(1, 255, 200);
+        due("below a PAIR at 255", x.brought(1, 250), 195);
+        due("far below a PAIR at 255", x.brought(1, 55), 0);
+        due("too far below a PAIR at 255", x.brought(1, 54), 0);
+        x.pair(2, 1, 0);
+        due("below a PAIR at 1", x.brought(2, 0), 0);
+        due("above a PAIR at 1", x.brought(2, 2), 1);
     }
 
     private static void belowAndAboveAll() {

@@ -15,6 +15,7 @@ public final class LawBoundariesTest extends Sentences {
         tests();
         sums();
         words();
+        misspeltHeadsAndJoints();
         numbers();
         parts();
         brackets();
@@ -337,6 +338,11 @@ public final class LawBoundariesTest extends Sentences {
             faults("light " + word.substring(1), 6);
             faults("light " + word.substring(0, word.length() - 1), 6);
         }
+        for (String word : fine) {
+            for (String other : misspelt(word)) {
+                faults("light " + other, 6);
+            }
+        }
         for (String word : new String[] {"shrink", "light", "title", "cut", "if", "or", "and", "not", "frame"}) {
             faults("light " + word, 6);
             faults("light 1+" + word, 8);
@@ -348,6 +354,37 @@ public final class LawBoundariesTest extends Sentences {
         lightIs("sound", 29);
         lightIs("shot", 1);
         lightIs("land", 6);
+    }
+
+    /** The word with each of its letters in turn become the next one. */
+    private static String[] misspelt(String word) {
+        String[] all = new String[word.length()];
+        for (int k = 0; k < all.length; k++) {
+            all[k] = word.substring(0, k) + (char) (word.charAt(k) + 1) + word.substring(k + 1);
+        }
+        return all;
+    }
+
+    private static void misspeltHeadsAndJoints() {
+        sentence("CLAUSE: HEAD [\"if\" TEST]. HEAD: \"light\" SUM | \"title\" SUM | \"cut\".");
+        for (String head : new String[] {"light", "title", "cut"}) {
+            stands(head.equals("cut") ? head : head + " 1", 1);
+            for (String other : misspelt(head)) {
+                faults(head.equals("cut") ? other : other + " 1", 0);
+            }
+        }
+        for (String joint : misspelt("if")) {
+            faults("cut " + joint + " 1=1", 4);
+        }
+        for (String joint : misspelt("or")) {
+            faults("cut if 1=1 " + joint + " 1=1", 11);
+        }
+        for (String joint : misspelt("and")) {
+            faults("cut if 1=1 " + joint + " 1=1", 11);
+        }
+        for (String joint : misspelt("not")) {
+            faults("cut if " + joint + " 1=1", 7);
+        }
     }
 
     private static void numbers() {
@@ -398,6 +435,11 @@ public final class LawBoundariesTest extends Sentences {
         faults(rowOf("1", 50) + "+[ 1", 108);
         lightIs("1" + "+1".repeat(35) + "-1".repeat(14), 22);
         isSo("1" + "+1".repeat(24) + "=25" + "*1".repeat(24));
+        FilmPrinter x = new FilmPrinter();
+        due("50 in one LAW", law(x, rowOf("1", 50)), 1);
+        due("50 in the next LAW", law(x, rowOf("2", 50)), 1);
+        due("51 in a refused one", law(x, rowOf("3", 51)), -6);
+        due("50 behind a refused one", law(x, rowOf("4", 50)), 1);
     }
 
     private static void brackets() {

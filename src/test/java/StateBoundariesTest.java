@@ -13,6 +13,8 @@ public final class StateBoundariesTest extends Sentences {
         keptToTheFull();
         tapeAndFaultStay();
         imagesStay();
+        otherShotsInTheirPlace();
+        oneOfFewerFrames();
         refusedLeavesAll();
         askingLeavesAll();
         longestUse();
@@ -371,6 +373,46 @@ public final class StateBoundariesTest extends Sentences {
         due("GAIN", x.terms(GAIN, 6), 4);
         due("BACK to 0", x.back(0), 0);
         due("GAIN", x.terms(GAIN, 6), 7);
+    }
+
+    private static void otherShotsInTheirPlace() {
+        sentence("BACK to one all that it keeps is as it was then");
+        FilmPrinter x = new FilmPrinter();
+        x.terms(AHEAD, 0);
+        x.image(0);
+        x.shot(2, 50, 1, 2, 60, 7);
+        x.shot(1, 90, 0, 0, 0, 0);
+        copy(x, 0, 51, 4);
+        x.image(1);
+        x.back(0);
+        x.shot(1, 200, 0, 0, 0, 0);
+        x.shot(3, 210, -5, 0, 0, 0);
+        dueRow("GREYS of the others", printed(x, 0), 200, 210, 205, 200);
+        dueRow("SHOTS of the others", heard(x, 0), 0, 1, 1, 1);
+        x.back(1);
+        dueRow("GREYS as they were", printed(x, 0), 50, 51, 90);
+        dueRow("SHOTS as they were", heard(x, 0), 0, 0, 1);
+        due("FRAME as it was", x.matched(0, 0), 0);
+    }
+
+    /** What was reckoned for more FRAMES must not count for fewer. */
+    private static void oneOfFewerFrames() {
+        sentence("BACK to one all that it keeps is as it was then");
+        for (int worse = 0; worse <= 1; worse++) {
+            FilmPrinter x = greys(10, 20);
+            x.terms(SEAM, 200);
+            copy(x, worse, 10, 5, 20, 5);
+            copy(x, 1 - worse, 10, 6, 20, 6);
+            x.image(0);
+            x.shot(1, 30, 0, 0, 0, 0);
+            copy(x, worse, 30, 99);
+            copy(x, 1 - worse, 30, 0);
+            due("from the better one of all", x.from(0), 1 - worse);
+            due("cost", x.one(0), 12);
+            x.back(0);
+            due("from the better one of two", x.from(0), worse);
+            due("cost", x.one(0), 10);
+        }
     }
 
     private static int refusedCall(FilmPrinter x, int n) {
