@@ -91,8 +91,10 @@ public final class FilmPrinter {
     private final Edition film = new Edition();
     private final Explainer explainer = new Explainer();
     private final Projector projector = new Projector();
-    private final Matcher matcher = new Matcher();
-    private final Maker maker = new Maker();
+    /** null: no COPY was asked of as yet. Its rows are the largest, and many objects never need them. */
+    private Matcher matcher;
+    /** null: ONE was not asked of as yet. */
+    private Maker maker;
     private int faultPlace = NONE;
     private int refusedBy = 0;
 
@@ -253,11 +255,8 @@ public final class FilmPrinter {
             return NONE;
         }
         film.build(now, asker, land);
-        projector.runShrunk(now, film);
-        if (i == NONE) {
-            return projector.jumpCount;
-        }
-        return between(i, 0, projector.jumpCount - 1) ? projector.jumps[i] : NONE;
+        projector.runShrunk(now, film, i);
+        return i == NONE ? projector.jumpCount : projector.jumpPlace;
     }
 
     public int heard(int land, int place) {
@@ -304,8 +303,7 @@ public final class FilmPrinter {
         if (!isCopy(copy) || !between(what, 0, 1)) {
             return NONE;
         }
-        matcher.refresh(now, copy);
-        int matched = matcher.matchedCounts[copy];
+        int matched = matching(copy).matchedCounts[copy];
         return what == 0 ? matched : now.copyCounts[copy] - matched;
     }
 
@@ -313,26 +311,25 @@ public final class FilmPrinter {
         if (!isCopy(copy) || !between(k, 0, now.copyCounts[copy] - 1)) {
             return NONE;
         }
-        matcher.refresh(now, copy);
-        return matcher.frameOf[copy * MOST_FRAMES + k];
+        return matching(copy).frameOf[copy * MOST_FRAMES + k];
     }
 
     public int one(int what) {
         if (!between(what, 0, 4)) {
             return NONE;
         }
-        makeOne();
+        Maker made = makeOne();
         switch (what) {
             case 0:
-                return maker.cost;
+                return made.cost;
             case 1:
-                return maker.seamCount;
+                return made.seamCount;
             case 2:
-                return maker.missingCount;
+                return made.missingCount;
             case 3:
-                return maker.longestMissing;
+                return made.longestMissing;
             default:
-                return maker.olderCount;
+                return made.olderCount;
         }
     }
 
@@ -340,8 +337,7 @@ public final class FilmPrinter {
         if (!between(frame, 0, now.frameCount - 1)) {
             return NONE;
         }
-        makeOne();
-        return maker.taken[frame];
+        return makeOne().taken[frame];
     }
 
     public int pair(int strip, int seen, int right) {
@@ -371,7 +367,7 @@ public final class FilmPrinter {
         now.seenCount = 0;
         Arrays.fill(now.copyCounts, 0);
         Arrays.fill(now.fails, 0);
-        matcher.forget();
+        forgetMatching();
         return gone;
     }
 
@@ -433,8 +429,14 @@ public final class FilmPrinter {
     /** Any call that was let through may have changed what the matching rests on. */
     private int accept(int answer) {
         refusedBy = 0;
-        matcher.forget();
+        forgetMatching();
         return answer;
+    }
+
+    private void forgetMatching() {
+        if (matcher != null) {
+            matcher.forget();
+        }
     }
 
     private boolean hasShot(int shot) {
@@ -463,10 +465,22 @@ public final class FilmPrinter {
         return true;
     }
 
-    private void makeOne() {
-        matcher.refresh(now, 0);
-        matcher.refresh(now, 1);
-        maker.make(now, matcher);
+    /** The matching of a COPY as it is now. */
+    private Matcher matching(int copy) {
+        if (matcher == null) {
+            matcher = new Matcher();
+        }
+        matcher.refresh(now, copy);
+        return matcher;
+    }
+
+    private Maker makeOne() {
+        if (maker == null) {
+            maker = new Maker();
+        }
+        matching(0);
+        maker.make(now, matching(1));
+        return maker;
     }
 
     private static boolean isLand(int land) {
@@ -1229,14 +1243,16 @@ public final class FilmPrinter {
 
     /** Runs an EDITION over its teeth and past the sound. */
     static final class Projector {
-        final int[] jumps = new int[MOST_PLACES];
         int jumpCount;
+        /** The PLACE of the jump that was asked for; NONE without. */
+        int jumpPlace;
         int offCount;
         int joinCount;
         int loudCount;
 
-        void runShrunk(State state, Edition film) {
+        void runShrunk(State state, Edition film, int asked) {
             jumpCount = 0;
+            jumpPlace = NONE;
             int slack = state.terms[SLACK];
             int slip = 0;
             for (int place = 0; place < film.placeCount; place++) {
@@ -1249,7 +1265,9 @@ public final class FilmPrinter {
                 slip += state.trait(film.shotAt[place], SHRINK);
                 if (slip >= slack) {
                     slip -= slack;
-                    jumps[jumpCount] = place;
+                    if (jumpCount == asked) {
+                        jumpPlace = place;
+                    }
                     jumpCount++;
                 }
             }
@@ -1292,7 +1310,8 @@ public final class FilmPrinter {
 
     /** Matches COPIES with the NEGATIVE; kept until something changes, as it is the dearest work. */
     static final class Matcher {
-        static final int WORDS = MOST_FRAMES / 32;
+        static final int BITS = 64;
+        static final int WORDS = MOST_FRAMES / BITS;
 
         /** For each COPY and frame of it the FRAME; NONE: STRAY. */
         final int[] frameOf = new int[COPIES * MOST_FRAMES];
@@ -1303,7 +1322,7 @@ public final class FilmPrinter {
         /** How many can be MATCHED from a frame of the COPY and a FRAME on, for the latest frame. */
         final int[] most = new int[MOST_FRAMES + 1];
         /** A bit for each frame and FRAME: from there on as many can be with the frame MATCHED. */
-        final int[] worthwhile = new int[MOST_FRAMES * WORDS];
+        final long[] worthwhile = new long[MOST_FRAMES * WORDS];
 
         void forget() {
             for (int copy = 0; copy < COPIES; copy++) {
@@ -1341,7 +1360,7 @@ public final class FilmPrinter {
                 }
                 both = without;
                 if (worth) {
-                    worthwhile[k * WORDS + f / 32] |= 1 << f % 32;
+                    worthwhile[k * WORDS + f / BITS] |= 1L << f % BITS;
                 }
             }
         }
@@ -1356,7 +1375,7 @@ public final class FilmPrinter {
             int f = 0;
             for (int k = 0; k < state.copyCounts[copy]; k++) {
                 frameOf[base + k] = NONE;
-                if (f >= state.frameCount || (worthwhile[k * WORDS + f / 32] >>> f % 32 & 1) == 0) {
+                if (f >= state.frameCount || (worthwhile[k * WORDS + f / BITS] >>> f % BITS & 1) == 0) {
                     continue;
                 }
                 while (f < state.frameCount
